@@ -31,6 +31,7 @@ public final class PhraseIndexPromisesTest {
         oneOf();
         then();
         within();
+        lastPlace();
         nestedExpressions();
         spans();
         begins();
@@ -446,6 +447,29 @@ public final class PhraseIndexPromisesTest {
         dueSpans("WITHIN, none of t", x, 0, 0);
     }
 
+    private static void lastPlace() {
+        dueSpans("a word at the last place alone", fullDocument(HAS, 2), 0, 1, 23, 23);
+        dueSpans("ONE_OF, the first at the last place", fullDocument(HAS, ONE_OF, 2, 9), 0, 1, 23, 23);
+        dueSpans("ONE_OF, the second at the last place", fullDocument(HAS, ONE_OF, 9, 2), 0, 1, 23, 23);
+        dueSpans("THEN 0 at the last place", fullDocument(HAS, THEN + 1, 1, THEN, 2, 2), 0, 1, 22, 23);
+        dueSpans("WITHIN at the last place", fullDocument(HAS, WITHIN, 2, 2), 0, 1, 23, 23);
+        dueSpans("WITHIN a span that ends at the last place",
+            fullDocument(HAS, WITHIN, 2, THEN + 1, 1, 2), 0, 1, 23, 23);
+        dueSpans("WITHIN, both end at the last place",
+            fullDocument(HAS, WITHIN, THEN + 2, 0, 2, THEN + 4, 0, 2), 0, 1, 21, 23);
+    }
+
+    /** A new object, so that nothing an earlier query left behind can help. */
+    private static PhraseIndex fullDocument(int... tokens) {
+        PhraseIndex x = new PhraseIndex();
+        for (int i = 0; i < 22; i++) {
+            x.write(0, 0);
+        }
+        fill(x, 0, 1, 2);
+        query(x, tokens);
+        return x;
+    }
+
     private static void nestedExpressions() {
         PhraseIndex x = new PhraseIndex();
         fill(x, 0, 0, 1, 0, 1, 0, 1, 0, 1);
@@ -597,5 +621,7 @@ public final class PhraseIndexPromisesTest {
             x.unask();
         }
         due("16: of no query", 0, x.hasTokens());
+        query(x, HAS, 1);
+        due("16: HAS as the first token", 1, x.hasTokens());
     }
 }
