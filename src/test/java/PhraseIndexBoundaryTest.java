@@ -259,6 +259,13 @@ public final class PhraseIndexBoundaryTest {
             due("spans(3, 5)", 1, x.spans(3, 5));
             due("spans(3, 1)", 0, x.spans(3, 1));
         });
+        test("Terms: a QUERY is a list of at most 12 tokens: the 12th may be an expression's second part", () -> {
+            int[] nine = join(times(8, NOT), HAS);
+            int[] words = {1, 2};
+            dueSpans(asked(written(new PhraseIndex(), 0, words), join(nine, ONE_OF, 1, 2)), 0, 2, 0, 0, 1, 1);
+            dueSpans(asked(written(new PhraseIndex(), 0, words), join(nine, THEN + 1, 1, 2)), 0, 1, 0, 1);
+            dueSpans(asked(written(new PhraseIndex(), 0, words), join(nine, WITHIN, 2, 2)), 0, 1, 1, 1);
+        });
     }
 
     private static void termsOfConditions() {
@@ -276,6 +283,15 @@ public final class PhraseIndexBoundaryTest {
             for (int w = 0; w < 12; w++) {
                 due("matching() of word " + w, 0, asked(new PhraseIndex(), HAS, w).matching());
             }
+        });
+        test("Terms: BOTH c d, EITHER c d: d comes behind the whole of c, however long that is", () -> {
+            dueMatching(0b000100, BOTH, NOT, HAS, 1, HAS, 2);
+            dueMatching(0b111101, EITHER, NOT, HAS, 1, HAS, 2);
+            dueMatching(0b000000, BOTH, BOTH, HAS, 1, HAS, 2, HAS, 3);
+            dueMatching(0b101000, EITHER, BOTH, HAS, 1, HAS, 2, HAS, 3);
+            dueMatching(0b001010, BOTH, EITHER, HAS, 1, HAS, 3, HAS, 1);
+            dueMatching(0b101110, EITHER, EITHER, HAS, 1, HAS, 2, HAS, 3);
+            dueMatching(0b001000, BOTH, HAS, THEN + 1, 1, 2, HAS, 2);
         });
         test("Terms: the query is COMPLETE when its tokens are one whole condition: the shortest", () -> {
             PhraseIndex x = new PhraseIndex();
@@ -942,9 +958,21 @@ public final class PhraseIndexBoundaryTest {
                 due("ends(1, 0, " + b + ")", NONE, x.ends(1, 0, b));
             }
         });
+        test("17: ends answers NONE also when b is no place: not a span of an operand, nor past 12 tokens", () -> {
+            PhraseIndex x = asked(written(new PhraseIndex(), 0, times(24, 5)), HAS, ONE_OF, 5, 5);
+            PhraseIndex y = asked(written(new PhraseIndex(), 0, times(24, 5)), join(times(10, NOT), HAS, 5));
+            for (int b : NO_PLACES) {
+                due("ends(0, 0, " + b + ") of ONE_OF", NONE, x.ends(0, 0, b));
+                due("ends(0, 0, " + b + ") of the 12th token", NONE, y.ends(0, 0, b));
+                due("begins(0, 0, " + b + ") of ONE_OF", b < 0 ? 0 : NONE, x.begins(0, 0, b));
+                due("begins(0, 0, " + b + ") of the 12th token", b < 0 ? 0 : NONE, y.begins(0, 0, b));
+            }
+        });
         test("17: spans: each pair (b, e) is one span, however often it comes about: ONE_OF", () -> {
-            PhraseIndex x = asked(written(new PhraseIndex(), 0, times(24, 7)), HAS, ONE_OF, 7, ONE_OF, 7, 7);
-            due("spans(0, 0)", 24, x.spans(0, 0));
+            PhraseIndex twice = asked(written(new PhraseIndex(), 0, times(24, 7)), HAS, ONE_OF, 7, 7);
+            due("spans(0, 0) of twice the same", 24, twice.spans(0, 0));
+            PhraseIndex thrice = asked(written(new PhraseIndex(), 0, times(24, 7)), HAS, ONE_OF, 7, ONE_OF, 7, 7);
+            due("spans(0, 0) of thrice the same", 24, thrice.spans(0, 0));
         });
         test("17: spans: each pair (b, e) is one span, however often it comes about: THEN", () -> {
             // Both parts reach 0 or 1 on, so the pairs (b, b + 3) come about in two ways.
