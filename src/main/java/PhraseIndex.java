@@ -7,8 +7,9 @@ public final class PhraseIndex {
     private static final int PLACES = 24;
     private static final int WORDS = 12;
     private static final int TOKENS = 12;
+    private static final int PARTS = TOKENS + 1;
     private static final int ALL_PLACES = DOCUMENTS * PLACES;
-    private static final int ALL_BEGINNINGS = TOKENS * PLACES;
+    private static final int ALL_BEGINNINGS = PARTS * PLACES;
 
     private static final int ONE_OF = 12;
     private static final int THEN = 13;
@@ -32,8 +33,10 @@ public final class PhraseIndex {
     // What evaluate() finds for the part of the query that starts at each token:
     // where the next part starts, and either its truth or its spans. A bit e at
     // [token * PLACES + b] is the span (b, e), so a pair can't be counted twice.
-    private final int[] nextPart = new int[TOKENS];
-    private final boolean[] truths = new boolean[TOKENS];
+    // There is one part more than tokens: a part that starts behind the last token
+    // is an index too, so that no index rests on the query being complete.
+    private final int[] nextPart = new int[PARTS];
+    private final boolean[] truths = new boolean[PARTS];
     private final int[] endBits = new int[ALL_BEGINNINGS];
 
     public PhraseIndex() {

@@ -1,15 +1,19 @@
+import java.lang.reflect.Method;
 import java.util.Arrays;
 
 /**
  * Rule 7 of LANGUAGE.md: no call throws or fails to end, for any arguments in any state.
  * Goes through every form that a query of at most 12 tokens can have, complete or not, and
- * makes each call there with arguments from the least int to the greatest.
+ * makes each call there with arguments from the least int to the greatest. Evaluating is tried
+ * in each form too, though the class does it for complete queries alone: its indexes must not
+ * rest on that.
  */
 public final class PhraseIndexAnyCallTest {
     private static final int[] ANY = {Integer.MIN_VALUE, -1, 0, 3, 5, 6, 11, 12, 19, 23, 24, Integer.MAX_VALUE};
     private static final int NOT = 22;
     private static final int HAS = 23;
 
+    private static final Method EVALUATE = evaluate();
     private static final int[] tokens = new int[12];
     private static int states = 0;
     private static int completeStates = 0;
@@ -60,10 +64,22 @@ public final class PhraseIndexAnyCallTest {
             }
             due(count, x.complete() == complete);
             read(x);
+            EVALUATE.invoke(x, 5);
             change(x);
-        } catch (RuntimeException thrown) {
+        } catch (RuntimeException | ReflectiveOperationException thrown) {
             wrong++;
-            System.out.println(Arrays.toString(Arrays.copyOf(tokens, count)) + " threw " + thrown);
+            Throwable cause = thrown.getCause() == null ? thrown : thrown.getCause();
+            System.out.println(Arrays.toString(Arrays.copyOf(tokens, count)) + " threw " + cause);
+        }
+    }
+
+    private static Method evaluate() {
+        try {
+            Method evaluate = PhraseIndex.class.getDeclaredMethod("evaluate", int.class);
+            evaluate.setAccessible(true);
+            return evaluate;
+        } catch (NoSuchMethodException e) {
+            throw new IllegalStateException("the class evaluates in another way: try that here", e);
         }
     }
 
