@@ -3,8 +3,9 @@ import java.util.List;
 import java.util.TreeSet;
 
 /**
- * Long runs of calls, the same each time, against a model that follows the document's
- * words directly: lists, sets of pairs and recursion.
+ * Runs of calls, the same each time, against a model that follows the document's words
+ * directly: lists, sets of pairs and recursion. First long runs of mixed calls, then every
+ * form that a complete query can have, with all that can be read of it.
  */
 public final class PhraseIndexModelTest {
     private static final int RUNS = 4000;
@@ -12,7 +13,15 @@ public final class PhraseIndexModelTest {
     private static final int LAST_STEP_BEFORE = 500;
     private static final int NONE = -1;
     private static final int FULL = -2;
+    private static final int WORD = 0;
+    private static final int PAIR_OF_SPANS = 12;
+    private static final int PAIR_OF_CONDITIONS = 20;
+    private static final int NOT = 22;
+    private static final int HAS = 23;
+    private static final int TIMES_EACH_FORM = 4;
 
+    private static final int[] form = new int[12];
+    private static int forms = 0;
     private static long seed = 1;
     private static int wrong = 0;
 
@@ -43,9 +52,74 @@ public final class PhraseIndexModelTest {
             wrong++;
             System.out.println("the runs made too few complete queries: " + completeRuns);
         }
-        System.out.println(wrong == 0 ? "the model agrees" : "the model does not agree");
+        visitForms(0, 0, 1);
+        System.out.println((wrong == 0 ? "the model agrees" : "the model does not agree")
+            + ", " + forms + " forms of a complete query");
         if (wrong != 0) {
             System.exit(1);
+        }
+    }
+
+    /** Each form of a complete query; a token of a form stands for all of its kind. */
+    private static void visitForms(int count, int spansDue, int conditionsDue) {
+        if (wrong != 0) {
+            return;
+        }
+        if (spansDue == 0 && conditionsDue == 0) {
+            forms++;
+            for (int i = 0; i < TIMES_EACH_FORM && wrong == 0; i++) {
+                new PhraseIndexModelTest(1 + i).readWhole(count);
+            }
+        } else if (count < form.length && spansDue > 0) {
+            visitWith(WORD, count, spansDue - 1, conditionsDue);
+            visitWith(PAIR_OF_SPANS, count, spansDue + 1, conditionsDue);
+        } else if (count < form.length) {
+            visitWith(HAS, count, 1, conditionsDue - 1);
+            visitWith(NOT, count, 0, conditionsDue);
+            visitWith(PAIR_OF_CONDITIONS, count, 0, conditionsDue + 1);
+        }
+    }
+
+    private static void visitWith(int token, int count, int spansDue, int conditionsDue) {
+        form[count] = token;
+        visitForms(count + 1, spansDue, conditionsDue);
+    }
+
+    private int ofKind(int token) {
+        return switch (token) {
+            case WORD -> pick(wordRange);
+            case PAIR_OF_SPANS -> 12 + pick(7);
+            case PAIR_OF_CONDITIONS -> 20 + pick(2);
+            default -> token;
+        };
+    }
+
+    /** At most 144 + 12 + 2 + 24 + 4 * 48 calls, so within the 512. */
+    private void readWhole(int count) {
+        for (int d = 0; d < 6; d++) {
+            int length = pick(25);
+            for (int i = 0; i < length; i++) {
+                int w = pick(wordRange);
+                due("write(" + d + ", " + w + ")", write(d, w), x.write(d, w));
+            }
+        }
+        for (int i = 0; i < count; i++) {
+            int token = ofKind(form[i]);
+            due("ask(" + token + ")", ask(token), x.ask(token));
+        }
+        due("complete()", 1, x.complete() ? 1 : 0);
+        due("matching()", matching(), x.matching());
+        int hasTokens = (int) query.stream().filter(t -> t == HAS).count();
+        int chosen = pick(6);
+        for (int k = 0; k < hasTokens; k++) {
+            for (int d = 0; d < 6; d++) {
+                due("spans(" + k + ", " + d + ")", spans(k, d), x.spans(k, d));
+            }
+            for (int b = 0; b < 24; b++) {
+                String last = "(" + k + ", " + chosen + ", " + b + ")";
+                due("begins" + last, begins(k, chosen, b), x.begins(k, chosen, b));
+                due("ends" + last, ends(k, chosen, b), x.ends(k, chosen, b));
+            }
         }
     }
 
@@ -94,7 +168,7 @@ public final class PhraseIndexModelTest {
                 due("having(" + w + ")", having(w), x.having(w));
                 due("frequency(" + w + ")", frequency(w), x.frequency(w));
             }
-            default -> due("hasTokens()", query.stream().filter(t -> t == 23).count(), x.hasTokens());
+            default -> due("hasTokens()", query.stream().filter(t -> t == HAS).count(), x.hasTokens());
         }
     }
 
